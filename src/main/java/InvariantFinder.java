@@ -150,8 +150,8 @@ public final class InvariantFinder {
         if (!isPair(x, y)) {
             return 0;
         }
-        int across = widthOf(x);
-        int up = climbOf(x, y);
+        int across = wayOf(x, x);
+        int up = wayOf(y, x);
         if (across == 0 || up == 0 || !isOnOneLine(x, y, across, up)) {
             return 0;
         }
@@ -162,8 +162,8 @@ public final class InvariantFinder {
         if (line(x, y) == 0) {
             return 0;
         }
-        int across = widthOf(x);
-        int up = climbOf(x, y);
+        int across = wayOf(x, x);
+        int up = wayOf(y, x);
         return up / greatestCommonDivisor(across, up);
     }
 
@@ -281,16 +281,10 @@ public final class InvariantFinder {
         }
     }
 
-    // With no sample both ends are the same unused cell, so the width is 0.
-    private int widthOf(int x) {
-        int lowest = sampleOfLeast(x);
-        int highest = sampleOfGreatest(x);
-        return value(highest, x) - value(lowest, x);
-    }
-
-    // How far y goes while x goes from its least value to its greatest: taken
-    // in this direction, the width of x is never negative, as p must not be.
-    private int climbOf(int x, int y) {
+    // How far y goes while x goes from its least value to its greatest. Taken in
+    // this direction, the way of x itself is never negative, as p must not be;
+    // with no sample both ends are the same unused cell, and the way is 0.
+    private int wayOf(int y, int x) {
         int lowest = sampleOfLeast(x);
         int highest = sampleOfGreatest(x);
         return value(highest, y) - value(lowest, y);

@@ -299,6 +299,7 @@ public final class PromiseTest {
         dueRelations("greater or equal", points(2, 1, 1, 1), 0b0000);
         dueRelations("the last breaks it", points(1, 2, 1, 2, 2, 1), 0b1000);
         dueRelations("the first breaks it", points(2, 1, 1, 2, 1, 2), 0b1000);
+        dueRelations("the middle breaks it", points(1, 2, 2, 1, 1, 2), 0b1000);
         InvariantFinder f = taken(1, 2, 3, 4);
         for (int x = 0; x < 4; x++) {
             for (int y = 0; y < 4; y++) {
@@ -331,6 +332,8 @@ public final class PromiseTest {
         due("-200", points(100, -100).offset(0, 1), -200);
         due("the last breaks it", points(1, 4, 1, 4, 1, 5).offset(0, 1), NONE);
         due("the first breaks it", points(1, 5, 1, 4, 1, 4).offset(0, 1), NONE);
+        due("the middle breaks it", points(1, 4, 1, 5, 1, 4).offset(0, 1), NONE);
+        due("the second of two breaks it", points(1, 4, 1, 5).offset(0, 1), NONE);
         InvariantFinder f = taken(1, 3, 6, 10);
         int[] v = {1, 3, 6, 10};
         for (int x = 0; x < 4; x++) {
@@ -425,6 +428,7 @@ public final class PromiseTest {
         due("a sum above 100", taken(100, 100, 100, 100).sums(0, 1, 2), false);
         due("the last breaks it", taken(1, 2, 3, 0, 1, 2, 4, 0).sums(0, 1, 2), false);
         due("the first breaks it", taken(1, 2, 4, 0, 1, 2, 3, 0).sums(0, 1, 2), false);
+        due("the middle breaks it", taken(1, 2, 3, 0, 1, 2, 4, 0, 1, 2, 3, 0).sums(0, 1, 2), false);
         dueWrongSums(f);
         dueWrongSums(taken(0, 0, 0, 0));
         dueWrongSums(new InvariantFinder());
