@@ -93,8 +93,8 @@ public final class InvariantFinder {
         if (number > MOST_LISTED || k < 0 || k >= number) {
             return NONE;
         }
-        int listed = BELOW_ALL_VALUES;
-        for (int i = 0; i <= k; i++) {
+        int listed = leastAbove(x, BELOW_ALL_VALUES);
+        for (int i = 0; i < k; i++) {
             listed = leastAbove(x, listed);
         }
         return listed;
