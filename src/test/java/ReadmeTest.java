@@ -1,7 +1,9 @@
 import java.io.IOException;
 import java.lang.reflect.Method;
+import java.lang.reflect.Modifier;
 import java.nio.file.Files;
 import java.nio.file.Path;
+import java.util.Arrays;
 import java.util.TreeSet;
 import java.util.regex.Matcher;
 import java.util.regex.Pattern;
@@ -9,7 +11,8 @@ import java.util.regex.Pattern;
 /** The example of README.md: each call answers what stands beside it, and no method is left out. */
 public final class ReadmeTest {
     private static final String START = "InvariantFinder f = new InvariantFinder();";
-    private static final Pattern CALL = Pattern.compile("f\\.(\\w+)\\(([-\\d, ]*)\\); +// (-?\\d+|true|false|no samples again).*");
+    private static final Pattern CALL = Pattern.compile(
+        "f\\.(\\w+)\\(([-\\d, ]*)\\); +// (-?\\d+|true|false|no samples again).*");
 
     private static int wrong = 0;
     private static final TreeSet<String> called = new TreeSet<>();
@@ -30,7 +33,7 @@ public final class ReadmeTest {
 
     private static Object answer(InvariantFinder f, String name, Object[] arguments) throws ReflectiveOperationException {
         Class<?>[] types = new Class<?>[arguments.length];
-        java.util.Arrays.fill(types, int.class);
+        Arrays.fill(types, int.class);
         return InvariantFinder.class.getDeclaredMethod(name, types).invoke(f, arguments);
     }
 
@@ -50,7 +53,7 @@ public final class ReadmeTest {
 
     private static void lookForLeftOut() {
         for (Method method : InvariantFinder.class.getDeclaredMethods()) {
-            boolean shown = java.lang.reflect.Modifier.isPublic(method.getModifiers());
+            boolean shown = Modifier.isPublic(method.getModifiers());
             if (shown && !called.contains(method.getName())) {
                 fault("README.md does not show " + method.getName());
             }
